@@ -23,6 +23,7 @@ public final class BagTree {
     private final Bags bags = new Bags();
     private final Law law = new Law();
     private final Going going = new Going();
+    private final Plan plan = new Plan();
     // These two are large and many objects never need them, so the first call that does makes them.
     private Search search;
     private Tally tally;
@@ -284,8 +285,9 @@ public final class BagTree {
     }
 
     private Tally freshTally() {
-        if (tally == null) tally = new Tally(net, law);
-        tally.prepare(bags);
+        if (tally == null) tally = new Tally(net, law, plan);
+        plan.lay(net, bags);
+        tally.openAll();
         return tally;
     }
 
@@ -461,16 +463,8 @@ public final class BagTree {
             return found;
         }
 
-        /** Lets knots go as long as there is one that no order of this width can suffer from. */
-        void letHarmlessGo(int limit) {
-            for (int round = 0; round < MOST; round++) {
-                int knot = harmless(limit);
-                if (knot == NONE) return;
-                letGo(knot);
-            }
-        }
-
-        private int harmless(int limit) {
+        /** A knot that can go first whenever all that are left can go within a width; NONE: none is known. */
+        int harmless(int limit) {
             for (int k = 0; k < MOST; k++) {
                 if (hasBit(left, k) && Integer.bitCount(near[k]) <= limit && isNearlyJoined(near[k])) return k;
             }
@@ -513,7 +507,8 @@ public final class BagTree {
             while (widest < net.size && !netFits(net, widest)) widest++;
             rest.start(net);
             for (int i = 0; i < net.size; i++) {
-                int knot = firstThatFits();
+                int knot = 0;
+                while (knot < MOST - 1 && !fitsBehind(rest, knot, 0)) knot++;
                 order.append(knot);
                 rest.letGo(knot);
             }
@@ -527,13 +522,6 @@ public final class BagTree {
             return fits(0);
         }
 
-        private int firstThatFits() {
-            for (int k = 0; k < MOST; k++) {
-                if (fitsBehind(rest, k, 0)) return k;
-            }
-            return 0;
-        }
-
         /** Whether a knot can go next within the limit, and all others behind it. */
         private boolean fitsBehind(Going before, int knot, int depth) {
             if (!hasBit(before.left, knot) || Integer.bitCount(before.near[knot]) > limit) return false;
@@ -545,7 +533,11 @@ public final class BagTree {
         /** Whether all that is left at a level can go within the limit; at each level a knot more is gone. */
         private boolean fits(int depth) {
             Going here = levels[depth];
-            here.letHarmlessGo(limit);
+            for (int round = 0; round < MOST; round++) {
+                int knot = here.harmless(limit);
+                if (knot == NONE) break;
+                here.letGo(knot);
+            }
             if (Integer.bitCount(here.left) <= limit + 1) return true;
             if (depth + 1 >= levels.length || isStuck(here.left)) return false;
             for (int k = 0; k < MOST; k++) {
@@ -612,6 +604,15 @@ public final class BagTree {
         int endingIn(int bag) {
             int up = ups[bag];
             return has(up) ? masks[bag] & ~masks[up] : masks[bag];
+        }
+
+        /** All knots that are in a bag with a knot. */
+        int matesOf(int knot) {
+            int found = 0;
+            for (int i = 0; i < size; i++) {
+                if (hasBit(masks[i], knot)) found |= masks[i];
+            }
+            return found;
         }
 
         /** What is first found not to be sound, as sound() tells it; 0: nothing. */
@@ -695,54 +696,74 @@ public final class BagTree {
     }
 
     /**
-     * In which order a sound tree lets the knots go, bag by bag: then the neighbours that a knot has when it goes
-     * are all in the last bag that it is in, so that they are WIDEST at most.
+     * An order for the knots to go in which each has WIDEST neighbours at most, as a sound tree of that width allows:
+     * knots that share a bag count as joined, and from the end of the order on that knot is set which is joined with
+     * the most knots behind it; then these all share a bag. Of several the least knot is set, for ways are told from
+     * knot 0 on, and a knot whose state becomes known spoils only tables from its own step on.
      */
     private static final class Plan {
         final int[] knots = new int[MOST];
         final int[] others = new int[MOST * WIDEST];
         final int[] otherCount = new int[MOST];
-        // The earlier steps that leave a table which this step's knot is the first to go of.
+        // The knot of a step and its others, as a mask.
+        final int[] scopes = new int[MOST];
+        // The step that uses this step's table: that of the first of the others to go; MOST without others.
+        final int[] users = new int[MOST];
         final int[] feeders = new int[MOST * MOST];
         final int[] feederCount = new int[MOST];
         int size;
         private final int[] places = new int[MOST];
+        private final int[] bagMates = new int[MOST];
         private final Going going = new Going();
 
         void lay(Net net, Bags bags) {
+            size = net.size;
+            for (int k = 0; k < size; k++) bagMates[k] = bags.matesOf(k);
+            int behind = 0;
+            for (int step = size - 1; step >= 0; step--) {
+                int knot = mostJoined(behind);
+                behind |= 1 << knot;
+                knots[step] = knot;
+                places[knot] = step;
+                feederCount[step] = 0;
+            }
             going.start(net);
-            size = 0;
-            for (int i = 0; i < bags.size; i++) {
-                int ending = bags.endingIn(i);
-                for (int k = 0; k < net.size; k++) {
-                    if (hasBit(ending, k) && size < MOST) addStep(k);
+            for (int step = 0; step < size; step++) takeStep(step);
+        }
+
+        private int mostJoined(int behind) {
+            int found = 0;
+            int most = -1;
+            for (int k = 0; k < size; k++) {
+                if (hasBit(behind, k)) continue;
+                int here = Integer.bitCount(bagMates[k] & behind);
+                if (here > most) {
+                    found = k;
+                    most = here;
                 }
             }
-            for (int step = 0; step < size; step++) feedNext(step);
+            return found;
         }
 
-        private void addStep(int knot) {
+        private void takeStep(int step) {
+            int knot = knots[step];
             int around = going.near[knot];
             int found = 0;
-            for (int k = 0; k < MOST; k++) {
+            int user = MOST;
+            for (int k = 0; k < size; k++) {
                 if (!hasBit(around, k) || found >= WIDEST) continue;
-                others[size * WIDEST + found] = k;
+                others[step * WIDEST + found] = k;
                 found++;
+                user = Math.min(user, places[k]);
             }
-            knots[size] = knot;
-            otherCount[size] = found;
-            feederCount[size] = 0;
-            places[knot] = size;
-            size++;
+            otherCount[step] = found;
+            scopes[step] = around | 1 << knot;
+            users[step] = user;
+            if (user < MOST) {
+                feeders[user * MOST + feederCount[user]] = step;
+                feederCount[user]++;
+            }
             going.letGo(knot);
-        }
-
-        private void feedNext(int step) {
-            int next = size;
-            for (int i = 0; i < otherCount[step]; i++) next = Math.min(next, places[others[step * WIDEST + i]]);
-            if (next >= size) return;
-            feeders[next * MOST + feederCount[next]] = step;
-            feederCount[next]++;
         }
     }
 
@@ -758,7 +779,7 @@ public final class BagTree {
         int many;
         private final Net net;
         private final Law law;
-        private final Plan plan = new Plan();
+        private final Plan plan;
         private final int[] openStates = new int[MOST * MOST_STATES];
         private final int[] openCount = new int[MOST];
         // Of each knot which of its open states is looked at.
@@ -767,50 +788,74 @@ public final class BagTree {
         private final int[] sums = new int[MOST * TABLE];
         private final int[] counts = new int[MOST * TABLE];
         private int sign;
+        // Knots whose open states have changed since the last sweep.
+        private int changed;
         private int pickedSum;
+        // Of the way that is looked for its sum, and how many ways are before it among those that are still open.
+        private int aim;
+        private long before;
 
-        Tally(Net net, Law law) {
+        Tally(Net net, Law law, Plan plan) {
             this.net = net;
             this.law = law;
+            this.plan = plan;
         }
 
-        void prepare(Bags bags) {
-            plan.lay(net, bags);
+        void openAll() {
             for (int k = 0; k < net.size; k++) open[k] = law.openFor(k);
         }
 
         /** A sign of 1 asks for the greatest sum, -1 for the least, 0 for ways whatever their sums are. */
         void sweep(int newSign) {
             sign = newSign;
+            changed = net.everyKnot();
+            sweepAgain();
+        }
+
+        /** Does the last sweep again, but only where open states that have changed since can be felt. */
+        private void sweepAgain() {
+            for (int k = 0; k < net.size; k++) {
+                if (hasBit(changed, k)) listOpenStates(k);
+            }
             sum = 0;
             many = 1;
-            for (int k = 0; k < net.size; k++) listOpenStates(k);
+            int stale = 0;
             for (int step = 0; step < plan.size; step++) {
-                fillTable(step);
+                if ((plan.scopes[step] & changed) != 0 || hasBit(stale, step)) {
+                    fillTable(step);
+                    stale |= 1 << plan.users[step];
+                }
                 if (plan.otherCount[step] > 0) continue;
                 sum += sums[step * TABLE];
                 many *= counts[step * TABLE];
             }
+            changed = 0;
         }
 
         /** The state of a knot in the n-th of the ways that a sweep with this sign counts. */
         int stateInWay(int newSign, long n, int knot) {
             sweep(newSign);
             if (n < 0 || n >= many) return NONE;
-            int aim = sum;
-            long before = n;
-            for (int k = 0; k <= knot; k++) {
-                int choices = open[k];
-                boolean isFound = false;
-                for (int s = 0; s < law.size && !isFound; s++) {
-                    if (!hasBit(choices, s)) continue;
-                    open[k] = 1 << s;
-                    sweep(newSign);
-                    int here = sum == aim ? many : 0;
-                    isFound = before < here;
-                    if (!isFound) before -= here;
-                    else if (k == knot) return s;
-                }
+            aim = sum;
+            before = n;
+            int state = NONE;
+            for (int k = 0; k <= knot; k++) state = settle(k);
+            return state;
+        }
+
+        /** Leaves only that state open for a knot which it has in the way that is looked for. */
+        private int settle(int knot) {
+            int choices = open[knot];
+            for (int s = 0; s < law.size; s++) {
+                if (!hasBit(choices, s)) continue;
+                open[knot] = 1 << s;
+                changed |= 1 << knot;
+                // A way that no state before gives is the last one's: that needs no sweep.
+                if (choices >> s == 1) return s;
+                sweepAgain();
+                int here = sum == aim ? many : 0;
+                if (before < here) return s;
+                before -= here;
             }
             return NONE;
         }
