@@ -70,13 +70,15 @@ public final class LargeTest {
     /** Over all sets of knots that are gone: the least width of what is still to come. */
     private static void leastIsDue(String what, BagTree x) {
         int n = x.count(0);
+        int[] near = new int[n];
+        for (int k = 0; k < n; k++) near[k] = x.beside(k);
         int[] due = new int[1 << n];
         due[(1 << n) - 1] = -1;
         for (int gone = (1 << n) - 2; gone >= 0; gone--) {
             due[gone] = 99;
             for (int k = 0; k < n; k++) {
                 if ((gone >> k & 1) == 1) continue;
-                due[gone] = Math.min(due[gone], Math.max(neighbours(x, gone, k), due[gone | 1 << k]));
+                due[gone] = Math.min(due[gone], Math.max(neighbours(near, gone, k), due[gone | 1 << k]));
             }
         }
         due("least() of " + what, x.least(), due[0]);
@@ -84,7 +86,7 @@ public final class LargeTest {
         int gone = 0;
         for (int i = 0; i < n; i++) {
             int next = 0;
-            while ((gone >> next & 1) == 1 || Math.max(neighbours(x, gone, next), due[gone | 1 << next]) > due[0]) next++;
+            while ((gone >> next & 1) == 1 || Math.max(neighbours(near, gone, next), due[gone | 1 << next]) > due[0]) next++;
             due("row(" + i + ") of " + what, x.row(i), next);
             gone |= 1 << next;
         }
@@ -93,12 +95,12 @@ public final class LargeTest {
     }
 
     /** Knots not gone that a knot reaches through knots that are. */
-    private static int neighbours(BagTree x, int gone, int knot) {
+    private static int neighbours(int[] near, int gone, int knot) {
         int seen = 1 << knot, todo = 1 << knot, found = 0;
         while (todo != 0) {
             int k = Integer.numberOfTrailingZeros(todo);
             todo &= todo - 1;
-            int next = x.beside(k) & ~seen;
+            int next = near[k] & ~seen;
             seen |= next;
             found |= next & ~gone;
             todo |= next & gone;
