@@ -48,23 +48,36 @@ public final class OracleTest {
         for (int i = 0; i < length; i++) anyCall(x, m, knots);
     }
 
+    /** Numbers that are far from all limits, or that a shift or a byte would take for small ones. */
+    private static int farNumber() {
+        int[] far = {Integer.MIN_VALUE, Integer.MAX_VALUE, -32, 31, 32, 33, 64, 256, -256, 65536, 1 << 30};
+        return far[below(far.length)];
+    }
+
     private static int someKnot(int knots) {
+        if (below(40) == 0) return farNumber();
         return below(12) == 0 ? between(-1, 15) : between(0, Math.max(0, knots - 1));
     }
 
     private static int someWeight() {
+        if (below(40) == 0) return farNumber();
         return below(12) == 0 ? between(-1, 1) * 1001 : between(0, 9);
     }
 
     private static int someFactor() {
+        if (below(40) == 0) return farNumber();
         return below(12) == 0 ? between(-1, 1) * 11 : between(-10, 10);
+    }
+
+    private static int someOf(int low, int high) {
+        return below(40) == 0 ? farNumber() : between(low, high);
     }
 
     private static void anyCall(BagTree x, Model m, int knots) {
         int a = someKnot(knots), b = someKnot(knots), w = someWeight(), f = someFactor();
-        int s = between(-1, 4), t = between(-1, 4), c = between(-1, 6), mask = between(-1, (1 << knots) + 1);
+        int s = someOf(-1, 4), t = someOf(-1, 4), c = someOf(-1, 6), mask = someOf(-1, (1 << knots) + 1);
         boolean most = below(2) == 0;
-        long n = between(-1, 40);
+        long n = below(20) == 0 ? (long) farNumber() << below(34) : between(-1, 40);
         switch (below(40)) {
             case 0: if (m.n < 7 && below(4) == 0) due("knot(" + w + ")", x.knot(w), m.knot(w)); break;
             case 1: case 2: case 3: due("edge(" + a + ", " + b + ", " + w + ")", x.edge(a, b, w), m.edge(a, b, w)); break;
