@@ -19,11 +19,18 @@ public final class LargeTest {
     }
 
     public static void main(String[] args) {
-        for (int percent = 0; percent <= 100; percent += 4) leastOfSome(percent);
+        for (int percent = 0; percent <= 100; percent += 4) leastOfSome(KNOTS, percent);
+        for (int i = 0; i < 1200; i++) leastOfSome(8 + i % 3, 15 + below(70));
         leastOfKnown();
         knownCounts();
         for (int i = 0; i < 12; i++) everyWay(i % 2 + 2, i % 3 + 2);
         for (int i = 0; i < 30; i++) anyTreeWillDo();
+        for (int i = 0; i < 60; i++) {
+            wayByCounting(nearlyTree(4), i % 3);
+            wayByCounting(tenOnFour(), i % 3);
+            bestWayByForbidding(nearlyTree(4), i % 2 == 0);
+            bestWayByForbidding(tenOnFour(), i % 2 == 0);
+        }
         System.out.println(wrong == 0 ? "all answers are as due" : wrong + " answers are not as due");
         if (wrong != 0) System.exit(1);
     }
@@ -36,12 +43,12 @@ public final class LargeTest {
 
     // ---- the least width
 
-    private static void leastOfSome(int percent) {
-        BagTree x = loose(KNOTS);
-        for (int a = 0; a < KNOTS; a++) {
+    private static void leastOfSome(int knots, int percent) {
+        BagTree x = loose(knots);
+        for (int a = 0; a < knots; a++) {
             for (int b = 0; b < a; b++) if (below(100) < percent) x.edge(a, b, 1);
         }
-        leastIsDue("some net of " + percent, x);
+        leastIsDue("some net of " + knots + " with " + percent + " percent", x);
     }
 
     private static void leastOfKnown() {
@@ -289,6 +296,60 @@ public final class LargeTest {
         for (int i = 0; i < n; i++) if (masks[i] != 0) number[i] = x.bag(masks[i]);
         for (int i = n - 2; i >= 0; i--) if (masks[i] == 0) number[i] = number[ups[i]];
         for (int i = 0; i < n - 1; i++) if (masks[i] != 0) x.hang(number[i], number[ups[i]]);
+    }
+
+    /** Ten knots that each are joined with four others, and these with one another. */
+    private static BagTree tenOnFour() {
+        BagTree x = loose(KNOTS);
+        for (int a = 10; a < KNOTS; a++) {
+            for (int b = 0; b < a; b++) x.edge(a, b, below(4));
+        }
+        return x;
+    }
+
+    /** As wide as may be asked about, with as many states as there can be. */
+    private static void tellWidest(BagTree x) {
+        someLaw(x, 4);
+        due("least() is 4 at most", Math.max(x.least(), 4), 4);
+        x.make();
+    }
+
+    /** A way has as many ways before it as can be counted by holding its first knots and giving the next one less. */
+    private static void wayByCounting(BagTree x, int part) {
+        tellWidest(x);
+        long ways = x.ways();
+        if (ways == 0) return;
+        long n = part == 0 ? ways - 1 : ways / (part + 1);
+        int[] way = new int[KNOTS];
+        for (int k = 0; k < KNOTS; k++) way[k] = x.drawn(n, k);
+        long before = 0;
+        for (int k = 0; k < KNOTS; k++) {
+            for (int s = 0; s < way[k]; s++) before += x.share(k, s);
+            x.forbid(k, 15 & ~(1 << way[k]));
+        }
+        due("ways that are as drawn(" + n + ")", x.ways(), 1);
+        due("ways before drawn(" + n + ")", before, n);
+    }
+
+    /** In the first best way each knot has the least state that still lets the best sum be, as knots before it are held. */
+    private static void bestWayByForbidding(BagTree x, boolean most) {
+        tellWidest(x);
+        long best = x.best(most);
+        if (best == BagTree.NO) return;
+        int[] way = new int[KNOTS];
+        for (int k = 0; k < KNOTS; k++) way[k] = x.choice(most, k);
+        for (int k = 0; k < KNOTS; k++) {
+            int forbidden = x.forbid(k, 0);
+            int s = 0;
+            while (s < 4 && !isBestWith(x, most, best, k, forbidden, s)) s++;
+            due("choice(" + most + ", " + k + ")", way[k], s);
+        }
+    }
+
+    private static boolean isBestWith(BagTree x, boolean most, long best, int knot, int forbidden, int state) {
+        if ((forbidden >> state & 1) == 1) return false;
+        x.forbid(knot, 15 & ~(1 << state));
+        return x.best(most) == best;
     }
 
     private static long[] asked(BagTree x) {

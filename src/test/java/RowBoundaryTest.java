@@ -48,6 +48,8 @@ public final class RowBoundaryTest {
         leastWithoutKnots();
         Trial.about("13: THE LEAST WIDTH");
         leastWidths();
+        Trial.about("13: THE LEAST WIDTH, however the KNOTS are numbered");
+        leastOfAllNumberings(new int[6], 0, 0);
         Trial.about("13: the least first KNOT, of these the least second one, and so on");
         bestOrders();
         Trial.about("13: THE ROW is THE BEST ORDER, whatever it was; THE TREE stays");
@@ -389,6 +391,23 @@ public final class RowBoundaryTest {
         less.cut(0, 13);
         due("least() of all but one joined", less.least(), 12);
         due("least() below fewest()", threeAndThree().least(), 3);
+    }
+
+    /** Gives the knots of three and three all numberings, one by one: some let a knot go that must not go first. */
+    private static void leastOfAllNumberings(int[] names, int named, int used) {
+        if (named == names.length) {
+            BagTree x = Nets.loose(6);
+            for (int a : new int[] {0, 2, 3}) for (int b : new int[] {1, 4, 5}) x.edge(names[a], names[b], 1);
+            x.edge(names[2], names[3], 1);
+            due("least() of three and three", x.least(), 3);
+            due("make() of three and three", x.make(), 3);
+            return;
+        }
+        for (int name = 0; name < names.length; name++) {
+            if ((used >> name & 1) == 1) continue;
+            names[named] = name;
+            leastOfAllNumberings(names, named + 1, used | 1 << name);
+        }
     }
 
     private static void bestOrders() {
