@@ -82,6 +82,17 @@ final class Nets {
         return x;
     }
 
+    /** Five knots, a row that lacks the first and the last of them, a sound tree whose first bag has neither 0 nor 1. */
+    static BagTree uneven() {
+        BagTree x = path(5);
+        x.edge(1, 3, 13);
+        withRow(x, 3, 1);
+        withBags(x, 24, 14, 2, 3);
+        x.hang(1, 3);
+        tellLaw(x, 3);
+        return x;
+    }
+
     /** Knots, edges, a whole row and a law, but no tree. */
     static BagTree bare() {
         BagTree x = path(4);
